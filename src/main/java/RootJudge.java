@@ -1380,21 +1380,41 @@ public final class RootJudge {
                 return;
             }
             found = parter.part(piece, roots, from);
+            // A root that was met at a corner may be the corner of its neighbour too: it has to go first.
             for (int i = from; i < found; i++) {
-                roots[i].owner = e;
-                tighten(roots[i], piece, PART_BITS);
                 if (roots[i].fraction) {
                     readBinary(roots[i]);
-                } else {
-                    readParts(roots[i]);
-                    tryFraction(roots[i], piece);
+                    giveOwnPiece(roots[i], e);
                 }
-                if (roots[i].fraction && piece.degree > 1) {
-                    linear.setLinear(roots[i].below, -roots[i].above);
-                    roots[i].owner = basis.splitOff(e, linear);
+            }
+            for (int i = from; i < found; i++) {
+                if (!roots[i].fraction) {
+                    settle(roots[i], e);
                 }
             }
             setSigns(from);
+        }
+
+        private void settle(Root root, int e) {
+            root.owner = e;
+            tighten(root, basis.pieces[e], PART_BITS);
+            if (root.fraction) {
+                readBinary(root);
+            } else {
+                readParts(root);
+                tryFraction(root, basis.pieces[e]);
+            }
+            if (root.fraction) {
+                giveOwnPiece(root, e);
+            }
+        }
+
+        private void giveOwnPiece(Root root, int e) {
+            root.owner = e;
+            if (basis.pieces[e].degree > 1) {
+                linear.setLinear(root.below, -root.above);
+                root.owner = basis.splitOff(e, linear);
+            }
         }
 
         /** The lead is positive: on the left of a root the sign tells whether the roots from it on are odd in number. */
