@@ -15,30 +15,28 @@ public final class RootJudge {
     private static final int BAD_SIGN = -2;
     private static final long FAR = -9000000000000000000L;
 
-    private final char[] text;
     private int signs;
     private int fault;
     private int place;
     private boolean known;
-    private final Reader reader;
-    private final Basis basis;
-    private final Finder finder;
     private final Line line;
+    private final Reader reader;
+    private final Finder finder;
+    private final Basis basis;
 
     public RootJudge() {
-        text = new char[ROOM];
         place = NONE;
-        reader = new Reader(text);
-        basis = new Basis();
-        finder = new Finder(basis);
-        line = new Line(reader, basis, finder);
+        line = new Line();
+        reader = line.reader;
+        finder = line.finder;
+        basis = line.basis;
     }
 
     public int type(int c) {
         if (!isSign(c) || signs >= ROOM) {
             return BAD;
         }
-        text[signs] = (char) c;
+        reader.text[signs] = (char) c;
         signs++;
         return signs;
     }
@@ -58,7 +56,7 @@ public final class RootJudge {
         for (int shift = 24; shift >= 0; shift -= 8) {
             int c = (signs >>> shift) & 255;
             if (c != 0 && this.signs < ROOM) {
-                text[this.signs] = (char) c;
+                reader.text[this.signs] = (char) c;
                 this.signs++;
             }
         }
@@ -71,22 +69,23 @@ public final class RootJudge {
         fault = reader.read(length);
         place = fault == 0 ? NONE : reader.place;
         known = fault == 0;
-        if (known) {
-            basis.clear();
-            for (int i = 0; i < reader.atoms; i++) {
-                basis.addAtom(reader.polys[i], i);
-            }
-            finder.clear();
-            int pieces = basis.size;
-            for (int e = 0; e < pieces; e++) {
-                finder.solve(e);
-            }
-            line.clear();
-            for (int i = 0; i < finder.found; i++) {
-                line.insert(i);
-            }
-            line.fillCells();
+        if (!known) {
+            return fault;
         }
+        basis.size = 0;
+        for (int i = 0; i < reader.atoms; i++) {
+            basis.addAtom(reader.polys[i], i);
+        }
+        finder.found = 0;
+        int pieces = basis.size;
+        for (int e = 0; e < pieces; e++) {
+            finder.solve(e);
+        }
+        line.size = 0;
+        for (int i = 0; i < finder.found; i++) {
+            line.insert(i);
+        }
+        line.fillCells();
         return fault;
     }
 
@@ -216,7 +215,11 @@ public final class RootJudge {
         if (!isCell(cell) || what < 0 || what > 1) {
             return FAR + BAD;
         }
-        line.fillSimple(cell);
+        if (cell % 2 == 0) {
+            line.fillBetween(cell);
+        } else {
+            line.fillAt(cell);
+        }
         int below = line.simpleBelow[cell];
         if (below < 0) {
             return FAR + below;
@@ -269,16 +272,17 @@ public final class RootJudge {
         }
 
         void setConstant(long value) {
-            setLinear(0, value);
+            for (int i = 1; i <= HIGHEST; i++) {
+                factors[i] = 0;
+            }
+            factors[0] = value;
+            degree = value != 0 ? 0 : -1;
         }
 
         void setLinear(long slope, long constant) {
-            for (int i = 2; i <= HIGHEST; i++) {
-                factors[i] = 0;
-            }
+            setConstant(constant);
             factors[1] = slope;
-            factors[0] = constant;
-            measure();
+            degree = slope != 0 ? 1 : degree;
         }
 
         void copy(Poly other) {
@@ -349,7 +353,7 @@ public final class RootJudge {
         private static final int NOT = 10;
         private static final int AND = 11;
         private static final int OR = 12;
-        private static final int STEPS = 512;
+        private static final int STEPS = 160;
         private static final String TOKENS = "x()[]|&~=<>+-*^";
         private static final String RELS = "=<>";
 
@@ -368,8 +372,8 @@ public final class RootJudge {
         private final int[] program;
         private int steps;
 
-        Reader(char[] text) {
-            this.text = text;
+        Reader() {
+            text = new char[ROOM];
             slots = new Poly[SLOTS];
             for (int i = 0; i < SLOTS; i++) {
                 slots[i] = new Poly();
@@ -860,10 +864,6 @@ public final class RootJudge {
             rest = new Poly();
         }
 
-        void clear() {
-            size = 0;
-        }
-
         /** In each round rest has just those roots that count once more than in the rounds before. */
         void addAtom(Poly poly, int atom) {
             core.copy(poly);
@@ -1063,6 +1063,7 @@ public final class RootJudge {
                 grow(other);
             } else {
                 shrink(other);
+                trim();
             }
         }
 
@@ -1102,7 +1103,6 @@ public final class RootJudge {
                     carry >>>= 32;
                 }
             }
-            trim();
         }
 
         /** Becomes the product of two numbers, neither of which it is itself. */
@@ -1342,8 +1342,8 @@ public final class RootJudge {
         private Big middle;
         private Big other;
 
-        Finder(Basis basis) {
-            this.basis = basis;
+        Finder() {
+            basis = new Basis();
             parter = new Parter();
             roots = new Root[MOST_ROOTS];
             for (int i = 0; i < MOST_ROOTS; i++) {
@@ -1363,10 +1363,6 @@ public final class RootJudge {
             high = new Big(VALUE_ROOM);
             middle = new Big(VALUE_ROOM);
             other = new Big(VALUE_ROOM);
-        }
-
-        void clear() {
-            found = 0;
         }
 
         /** Fractions among the roots are split off, so that what stays has no root at any fraction. */
@@ -1671,8 +1667,8 @@ public final class RootJudge {
         private static final int LARGEST_BELOW = 2000;
 
         private final Reader reader;
-        private final Basis basis;
         private final Finder finder;
+        private final Basis basis;
         private final int[] order;
         private int size;
         private final byte[] signs;
@@ -1684,19 +1680,15 @@ public final class RootJudge {
         private final long[] simpleAbove;
         private final int[] simpleBelow;
 
-        Line(Reader reader, Basis basis, Finder finder) {
-            this.reader = reader;
-            this.basis = basis;
-            this.finder = finder;
+        Line() {
+            reader = new Reader();
+            finder = new Finder();
+            basis = finder.basis;
             order = new int[MOST_ROOTS];
             signs = new byte[CELLS * MOST_ATOMS];
             held = new boolean[CELLS];
             simpleAbove = new long[CELLS];
             simpleBelow = new int[CELLS];
-        }
-
-        void clear() {
-            size = 0;
         }
 
         Root rootAt(int k) {
@@ -1796,15 +1788,8 @@ public final class RootJudge {
             return 2 * under;
         }
 
-        /** Denominator NONE or GREAT where no fraction can be told. */
-        void fillSimple(int cell) {
-            if (simpleBelow[cell] != 0) {
-                return;
-            }
-            if (cell % 2 == 0) {
-                fillBetween(cell);
-                return;
-            }
+        /** The simple fraction of a root's cell; its denominator is NONE or GREAT where none can be told. */
+        void fillAt(int cell) {
             Root root = rootAt(cell / 2);
             simpleAbove[cell] = root.above;
             if (!root.fraction) {
@@ -1814,7 +1799,11 @@ public final class RootJudge {
             }
         }
 
-        private void fillBetween(int cell) {
+        /** The simple fraction of any other cell, kept until the next text is read. */
+        void fillBetween(int cell) {
+            if (simpleBelow[cell] != 0) {
+                return;
+            }
             long whole = 0;
             int zero = locate(0, 0, 1);
             if (zero < cell) {

@@ -24,6 +24,11 @@ public final class OracleTest {
             compare(Texts.sums(random), random);
             compare(Texts.products(random), random);
             compare(Texts.close(random), random);
+            compare(Texts.large(random), random);
+            if (i % 4 == 0) {
+                compare(Texts.many(random), random);
+                compare(Texts.neighbours(random), random);
+            }
             for (int j = 0; j < 20; j++) {
                 compareFault(Texts.spoilt(random));
                 compareFault(Texts.noise(random));
@@ -40,6 +45,10 @@ public final class OracleTest {
         "((x^2-9)^2-40)^2<99", "1000*1000*1000*x=999999999*0+1", "x=1000*1000*1000", "x+1000*1000*1000=0",
         "x^8=1000*1000*1000", "1000*1000*1000*x^8=1", "4*x^2=9&2*x=3", "x^2=x|x^3=x|x^4=x|x^5=x",
         "(x^2+1)^2*(x-1)<0&(x^2+1)*(x^2+x+1)>0", "x^8-x-1=0|x^8-x-1<0|x^8-x-1>0",
+        "x^2-10^9*x+1=0|x-10^9<0", "x^8-10^9*x^7-10^9<0|x^8-10^9*x^7+10^9<0", "10^9*x^8-(10^9-1)=0|x=1|x=0-1",
+        "(10^9-1)*x^8=10^9|10^9*x^7=10^9-1", "x^8+10^9*x^7+x=0", "(x^2-x)^4=0|(x^2+x)^4>0|(x^3-x)^2<0",
+        "(3*x-1)*(2*x-1)*(5*x-3)*(7*x+2)=0|(3*x-1)*(7*x+2)*(x^2-2)<0", "64*x^6-80*x^4+24*x^2-1<0|128*x^8-256*x^6+160*x^4-32*x^2+1>0",
+        "x^4-10*x^2+1=0|x^2-5<2|(x^2-5)^2=24&x^3-9*x=0", "x^3-3*x+1=0|x^3-3*x-1=0|x^6-6*x^4+9*x^2-1>0",
     };
 
     private static void due(String text, String call, long got, long want) {
@@ -278,6 +287,58 @@ public final class OracleTest {
                 default:
                     return "(x-" + b + ")*(x-" + b + "-1)*(" + a + "*x^2-1)-" + "1=0|x^2*" + a + "=1";
             }
+        }
+
+        /** Factors up to 1,000,000,000. */
+        static String large(Random random) {
+            StringBuilder out = new StringBuilder();
+            int atoms = 1 + random.nextInt(2);
+            for (int i = 0; i < atoms; i++) {
+                out.append(i == 0 ? "" : "|");
+                for (int k = 1 + random.nextInt(8); k >= 0; k--) {
+                    if (random.nextInt(4) > 0) {
+                        out.append(random.nextBoolean() ? "-" : out.length() > 0 && out.charAt(out.length() - 1) != '|' ? "+" : "");
+                        out.append(random.nextInt(31623)).append('*').append(random.nextInt(31623)).append("*x^").append(k);
+                    }
+                }
+                if (out.length() == 0 || out.charAt(out.length() - 1) == '|') {
+                    out.append("x");
+                }
+                out.append("=<>".charAt(random.nextInt(3))).append(random.nextInt(1000000));
+            }
+            return out.toString();
+        }
+
+        /** Up to eight real roots an atom. */
+        static String many(Random random) {
+            StringBuilder out = new StringBuilder();
+            int atoms = 1 + random.nextInt(4);
+            for (int i = 0; i < atoms; i++) {
+                int a = 1 + random.nextInt(12);
+                int b = random.nextInt(a * a);
+                int c = random.nextInt(Math.min(30000, b * b + 1));
+                out.append(i == 0 ? "" : "&").append("((x").append(random.nextBoolean() ? "" : "-" + random.nextInt(3)).append("^2-");
+                out.append(a).append(")^2-").append(b).append(")^2").append("=<>".charAt(random.nextInt(3))).append(c);
+            }
+            return out.toString();
+        }
+
+        /** Roots that differ only some two hundred binary digits behind the point. */
+        static String neighbours(Random random) {
+            StringBuilder out = new StringBuilder();
+            int a = 20000 + random.nextInt(11000);
+            int b = 20000 + random.nextInt(11000);
+            int atoms = 2 + random.nextInt(4);
+            for (int i = 0; i < atoms; i++) {
+                out.append(i == 0 ? "" : "|");
+                if (random.nextInt(5) == 0) {
+                    out.append(a).append('*').append(b).append("*x=1");
+                } else {
+                    out.append(random.nextBoolean() ? "" : "-").append(1 + random.nextInt(3)).append("*x^").append(7 + random.nextInt(2));
+                    out.append(random.nextInt(3) == 0 ? "+x^6" : "").append("-").append(a).append('*').append(b).append("*x+1<0");
+                }
+            }
+            return out.toString();
         }
 
         static String spoilt(Random random) {
