@@ -864,7 +864,7 @@ public final class RootJudge {
             rest = new Poly();
         }
 
-        /** In each round rest has just those roots that count once more than in the rounds before. */
+        /** In round n (from 1 on) rest has just those roots that count n times or more. */
         void addAtom(Poly poly, int atom) {
             core.copy(poly);
             core.makePrimitive();
@@ -1171,6 +1171,7 @@ public final class RootJudge {
      */
     private static final class Parter {
         private static final int ROWS = 80;
+        // Mahler's bound parts the roots of a piece at some 236 bits.
         private static final int FINEST = 256;
         private static final int WIDEST = 30;
         private static final int NODES = 100000;
@@ -1413,7 +1414,7 @@ public final class RootJudge {
             }
         }
 
-        /** The lead is positive: on the left of a root the sign tells whether the roots from it on are odd in number. */
+        /** The lead is positive, so the sign left of a root tells whether the roots from it on are odd in number. */
         private void setSigns(int from) {
             int mark = 1;
             for (int i = found - 1; i >= from; i--) {
@@ -1638,7 +1639,11 @@ public final class RootJudge {
             return a.whole != b.whole ? Long.compare(a.whole, b.whole) : Long.compare(a.part, b.part);
         }
 
-        /** The same for two roots of different pieces, neither a fraction: narrowed until their intervals part. */
+        /**
+         * The same for two roots of different pieces, neither a fraction: narrowed until their intervals part.
+         * They do before DEEPEST: coprime pieces have a resultant of at least 1, so their roots are more than
+         * 2 to the power -568 apart.
+         */
         int compareDeeply(Root a, Root b) {
             for (int turn = 0; turn < TURNS; turn++) {
                 boolean firstIsWide = a.bits <= b.bits;
