@@ -15,6 +15,8 @@ public final class AnswerBoundariesTest {
         eightyRoots();
         rootsCountOnce();
         rootsRiseHoweverNear();
+        rootsOfOneAtomHoweverNear();
+        eachLoadBeginsAnew();
         simpleIsNearestToZero();
         countBeforeAndAfter();
         countOfOther();
@@ -36,8 +38,10 @@ public final class AnswerBoundariesTest {
         timesOfZero();
         timesOfNone();
         exactInLeastTerms();
+        fractionsNearARootAreNotIt();
         exactOfNone();
         common();
+        commonOnlyModuloPrimes();
         simpleOf2000And2001();
         simpleOfNone();
         cellOfEdges();
@@ -155,12 +159,49 @@ public final class AnswerBoundariesTest {
         }
     }
 
+    /** Two roots lie some 10 to the power -22 apart, 1 / 22,360 (or that below 0) between them. */
+    private static void rootsOfOneAtomHoweverNear() {
+        for (int way = -1; way <= 1; way += 2) {
+            Calls calls = Calls.read("x^8>2*(22360*x" + (way < 0 ? "+" : "-") + "1)^2");
+            due("roots", calls.count(4), 4);
+            due("left of both", calls.cellOf(way * 44722, 999983920 + way), 2);
+            due("between them", calls.cellOf(way, 22360), 4);
+            due("right of both", calls.cellOf(way * 44722, 999983920 - way), 6);
+            due("it holds between them", calls.holds(4), 1);
+            due("but not left of both", calls.holds(2), 0);
+            due("nor right of both", calls.holds(6), 0);
+            due("pieces", calls.judge(4), 3);
+            for (int k = 1; k <= 2; k++) {
+                due("root(" + k + ", 0)", calls.root(k, 0), way < 0 ? -1 : 0);
+                due("root(" + k + ", 8)", calls.root(k, 8), way < 0 ? -4473 : 4472);
+                due("exact(" + k + ", 0)", calls.exact(k, 0), Calls.FAR_NONE);
+            }
+            due("the denominator between them", calls.simple(4, 1), Calls.FAR_GREAT);
+        }
+    }
+
+    private static void eachLoadBeginsAnew() {
+        String[] texts = {"x^2=2|2*x>3|x-x=0", "(x^2+1)^2*(x-1)^3>0|~x^4=1", "x=1", "x^2+1<0", "7<0", "x^8=x|x^2=3",
+            "(x^2-2)*(x^2+5)<0&~(x^2-3)*(x^2+5)<0", "x^8>2*(22360*x-1)^2"};
+        for (String before : texts) {
+            for (String text : texts) {
+                Calls calls = Calls.read(before);
+                calls.shown();
+                calls.write(text);
+                due("load()", calls.load(), 0);
+                boolean same = calls.shown().equals(Calls.read(text).shown());
+                due("what is shown of " + text + " after " + before, same ? 1 : 0, 1);
+            }
+        }
+    }
+
     private static void simple(String text, int cell, long above, long below) {
         Calls calls = Calls.read(text);
         due("simple(" + cell + ", 0) of " + text, calls.simple(cell, 0), above);
         due("simple(" + cell + ", 1) of " + text, calls.simple(cell, 1), below);
     }
 
+    /** Two fractions equally near to 0 have 0 between them: where they lie in one cell, it is the simple one. */
     private static void simpleIsNearestToZero() {
         simple("x^2=9", 0, -4, 1);
         simple("x^2=9", 2, 0, 1);
@@ -529,6 +570,23 @@ public final class AnswerBoundariesTest {
         exact("x^3=2", 0, Calls.FAR_NONE, Calls.FAR_NONE);
         exact("x^2-10^9*x+1=0", 1, Calls.FAR_NONE, Calls.FAR_NONE);
         exact("x^8=256", 1, 2, 1);
+        exact("3*x^2=10^9*x", 1, 1000000000, 3);
+        exact("3*x^2+10^9*x=0", 0, -1000000000, 3);
+        exact("(10^9-1)*x^2=x", 1, 1, 999999999);
+    }
+
+    /** The root lies less than 10 to the power -11 from 10 / 3. */
+    private static void fractionsNearARootAreNotIt() {
+        for (int way = -1; way <= 1; way += 2) {
+            Calls calls = Calls.read("(3*x-10)*x^7*10^7" + (way < 0 ? "+" : "-") + "1=0");
+            int k = calls.count(4) - 1;
+            due("root(" + k + ", 8)", calls.root(k, 8), 333333333);
+            due("exact(" + k + ", 0)", calls.exact(k, 0), Calls.FAR_NONE);
+            due("exact(" + k + ", 1)", calls.exact(k, 1), Calls.FAR_NONE);
+            due("simple", calls.simple(2 * k + 1, 0), Calls.FAR_NONE);
+            due("cellOf(10, 3)", calls.cellOf(10, 3), way < 0 ? 2 * k + 2 : 2 * k);
+            due("signAt(0, 10, 3)", calls.signAt(0, 10, 3), -way);
+        }
     }
 
     private static void exactOfNone() {
@@ -555,6 +613,21 @@ public final class AnswerBoundariesTest {
         Calls two = Calls.read("(x-1)^2*(x^2+1)=0|(x-1)*(x^2+1)^3=0");
         due("roots that are not real count too, once", two.common(0), 3);
         due("there is no root 1", two.common(1), BAD);
+    }
+
+    /** The second polynomial's value at 46341 is a product of primes just under 2 to the power 31, not 0. */
+    private static void commonOnlyModuloPrimes() {
+        for (String second : new String[] {"x^2-4634", "46340*x^3+37055*x^2+465*x+8803",
+            "46340*x^5+32361*x^4+1405*x^3+36699*x^2+40766*x+14890",
+            "46340*x^7+27659*x^6+2824*x^5+12638*x^4+11154*x^3+25939*x^2+29474*x+8471"}) {
+            Calls calls = Calls.read("x=46341|" + second + "=0");
+            int k = calls.cellOf(46341, 1) / 2;
+            due("exact(" + k + ", 0)", calls.exact(k, 0), 46341);
+            due("times(" + k + ", 0)", calls.times(k, 0), 1);
+            due("times(" + k + ", 1)", calls.times(k, 1), 0);
+            due("common(" + k + ")", calls.common(k), 1);
+            due("degree of the second", calls.atom(1, 11) + calls.atom(1, 12), calls.atom(1, 9));
+        }
     }
 
     private static void simpleOf2000And2001() {

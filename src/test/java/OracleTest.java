@@ -40,7 +40,7 @@ public final class OracleTest {
 
     private static final String[] FIXED = {
         "x=0", "0=0", "0<0|x>x", "5>0", "x^2=2&x^3=3", "~[x<0|x>0]", "x^8-1000*1000*1000*x+1=0|1000*1000*1000*x=1",
-        "x^8-1000*1000*1000*x+1=0|x^7-1000*1000*1000*x+1=0", "x^8<2*(22360*x-1)^2", "x^8-x^7=0|x^7-x^6>0",
+        "x^8-1000*1000*1000*x+1=0|x^7-1000*1000*1000*x+1=0", "x^8<2*(22360*x-1)^2", "x^8<2*(22360*x+1)^2", "x^8-x^7=0|x^7-x^6>0",
         "x^2-4*x+3<0|x^2-8*x+15=0|x^2-6*x+5>0", "(3*x-1)^2*(x^2-2)=0|(3*x-1)*(x^2-3)^2<0|9*x^2-6*x+1>0",
         "((x^2-9)^2-40)^2<99", "1000*1000*1000*x=999999999*0+1", "x=1000*1000*1000", "x+1000*1000*1000=0",
         "x^8=1000*1000*1000", "1000*1000*1000*x^8=1", "4*x^2=9&2*x=3", "x^2=x|x^3=x|x^4=x|x^5=x",
@@ -268,6 +268,11 @@ public final class OracleTest {
         }
 
         static String close(Random random) {
+            String text = closeAboveZero(random);
+            return random.nextBoolean() ? text : text.replace("x", "(-x)");
+        }
+
+        private static String closeAboveZero(Random random) {
             int a = 2 + random.nextInt(random.nextBoolean() ? 22000 : 60);
             int b = 1 + random.nextInt(9);
             int d = 3 + random.nextInt(4);
