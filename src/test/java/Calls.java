@@ -1,5 +1,6 @@
 import java.util.ArrayList;
 import java.util.List;
+import java.util.function.LongSupplier;
 
 /**
  * A judge whose calls are counted: nothing is promised beyond the 512th, so a test that goes beyond it is
@@ -24,6 +25,12 @@ final class Calls {
     static Calls typed(String text) {
         Calls calls = new Calls();
         calls.write(text);
+        return calls;
+    }
+
+    static Calls typedAndLoaded(String text) {
+        Calls calls = typed(text);
+        calls.load();
         return calls;
     }
 
@@ -155,38 +162,62 @@ final class Calls {
     }
 
     /** Everything that can be asked of a text with up to 3 atoms and 3 roots, in some 150 calls. */
-    List<Long> shown() {
-        List<Long> all = new ArrayList<>();
-        for (int what = 0; what <= 8; what++) {
-            all.add((long) count(what));
-            all.add((long) judge(what));
+    private List<LongSupplier> questions() {
+        List<LongSupplier> all = new ArrayList<>();
+        for (int n = 0; n <= 8; n++) {
+            int what = n;
+            all.add(() -> count(what));
+            all.add(() -> judge(what));
         }
-        for (int i = 0; i < 3; i++) {
-            for (int k = 0; k <= 12; k++) {
-                all.add((long) atom(i, k));
-            }
-            all.add((long) signAt(i, 3, 2));
-            for (int k = 0; k < 3; k++) {
-                all.add((long) times(k, i));
-            }
-            for (int cell = 0; cell < 7; cell++) {
-                all.add((long) sign(cell, i));
-            }
+        for (int n = 0; n < 3; n++) {
+            addAtom(all, n);
+            addRoot(all, n);
         }
-        for (int k = 0; k < 3; k++) {
-            all.add(root(k, 0));
-            all.add(root(k, 8));
-            all.add(exact(k, 0));
-            all.add(exact(k, 1));
-            all.add((long) common(k));
+        for (int n = 0; n < 7; n++) {
+            int cell = n;
+            all.add(() -> holds(cell));
+            all.add(() -> simple(cell, 0));
+            all.add(() -> simple(cell, 1));
         }
-        for (int cell = 0; cell < 7; cell++) {
-            all.add((long) holds(cell));
-            all.add(simple(cell, 0));
-            all.add(simple(cell, 1));
-        }
-        all.add((long) cellOf(-3, 2));
-        all.add((long) cellOf(3, 2));
+        all.add(() -> cellOf(-3, 2));
+        all.add(() -> cellOf(3, 2));
         return all;
+    }
+
+    private void addAtom(List<LongSupplier> all, int i) {
+        for (int n = 0; n <= 12; n++) {
+            int k = n;
+            all.add(() -> atom(i, k));
+        }
+        all.add(() -> signAt(i, 3, 2));
+        for (int n = 0; n < 7; n++) {
+            int cell = n;
+            all.add(() -> sign(cell, i));
+        }
+    }
+
+    private void addRoot(List<LongSupplier> all, int k) {
+        all.add(() -> root(k, 0));
+        all.add(() -> root(k, 8));
+        all.add(() -> exact(k, 0));
+        all.add(() -> exact(k, 1));
+        all.add(() -> common(k));
+        for (int n = 0; n < 3; n++) {
+            int i = n;
+            all.add(() -> times(k, i));
+        }
+    }
+
+    List<Long> shown() {
+        List<Long> answers = new ArrayList<>();
+        for (LongSupplier question : questions()) {
+            answers.add(question.getAsLong());
+        }
+        return answers;
+    }
+
+    /** One of these answers, without asking for the others. */
+    long shownAt(int i) {
+        return questions().get(i).getAsLong();
     }
 }
