@@ -34,6 +34,8 @@ public final class AnswerBoundariesTest {
         rootBelowZero();
         rootScaled();
         rootCloseToWholeNumbers();
+        rootCloseToMarks();
+        rootsAround2();
         rootOfNone();
         timesOfZero();
         timesOfNone();
@@ -43,6 +45,7 @@ public final class AnswerBoundariesTest {
         common();
         commonOnlyModuloPrimes();
         simpleOf2000And2001();
+        simpleAllButMeetsARoot();
         simpleOfNone();
         cellOfEdges();
         signAtEdges();
@@ -502,6 +505,53 @@ public final class AnswerBoundariesTest {
         root("(10^9-1)*x^2=10^9", 1, 8, 100000000);
     }
 
+    /** Roots nearer than 2 to the power -32 to a mark of 8 digits behind the point, on either side of it. */
+    private static void rootCloseToMarks() {
+        long[][] roots = {{53, 3162277576368L}, {161, 3162277405605L}, {233, 3162277291763L}, {269, 3162277234842L},
+            {384, 3162277053011L}, {420, 3162276996090L}, {82, 3162277530514L}, {190, 3162277359751L}, {262, 3162277245909L},
+            {305, 3162277177920L}, {341, 3162277120999L}, {535, 3162276814258L}};
+        for (long[] row : roots) {
+            root("x^2=10^9-" + row[0], 1, 8, row[1]);
+            root("x^2=10^9-" + row[0], 0, 8, -row[1] - 1);
+            root("x^2=10^9-" + row[0], 1, 7, row[1] / 10);
+        }
+    }
+
+    private static final String LOWER = "x^7+x^6+x^5+x^4+x^3+x^2+x";
+
+    /** The first root lies less than 10 to the power -11 below 2, the second at it, the third as little above it. */
+    private static void rootsAround2() {
+        String below = "(10^9-3906*1000-250)*x^8=10^9*(" + LOWER + ")+10^9-1";
+        String at = "(10^9-3906*1000-250)*x^8=10^9*(" + LOWER + "+1)";
+        String above = "(10^9-3906*1000-251)*x^8=(10^9-1)*(" + LOWER + ")+10^9";
+        for (String text : new String[] {below + "|" + at + "|" + above, above + "|" + at + "|" + below}) {
+            Calls calls = Calls.read(text);
+            int cell = calls.cellOf(2, 1);
+            int k = cell / 2;
+            due("2 is a root", cell % 2, 1);
+            due("exact", calls.exact(k, 0), 2);
+            due("just below it is none", calls.exact(k - 1, 0), Calls.FAR_NONE);
+            due("just above it is none", calls.exact(k + 1, 0), Calls.FAR_NONE);
+            long[][] digits = {{1, 19, 1999999, 199999999}, {2, 20, 2000000, 200000000}, {2, 20, 2000000, 200000000}};
+            int[] places = {0, 1, 6, 8};
+            for (int i = 0; i < 4; i++) {
+                for (int way = -1; way <= 1; way++) {
+                    due("root(" + (k + way) + ", " + places[i] + ")", calls.root(k + way, places[i]), digits[way + 1][i]);
+                }
+            }
+            due("just below both", calls.cellOf(999999999, 500000000), cell - 3);
+            due("just above both", calls.cellOf(1000000000, 499999999), cell + 3);
+            due("between the first two", calls.simple(cell - 1, 1), Calls.FAR_GREAT);
+            due("between the last two", calls.simple(cell + 1, 1), Calls.FAR_GREAT);
+            due("the same below 0", Calls.read(text.replace("x", "(-x)")).cellOf(-2, 1) % 2, 1);
+        }
+        Calls mirrored = Calls.read((below + "|" + at + "|" + above).replace("x", "(-x)"));
+        int k = mirrored.cellOf(-2, 1) / 2;
+        due("just below -2", mirrored.root(k - 1, 8), -200000001);
+        due("-2", mirrored.root(k, 8), -200000000);
+        due("just above -2", mirrored.root(k + 1, 8), -200000000);
+    }
+
     private static void rootOfNone() {
         Calls calls = Calls.read("x=1|x^2=2");
         for (int k : new int[] {-1, 3, 4, 80, Calls.LEAST_INT, Calls.GREATEST_INT}) {
@@ -655,6 +705,23 @@ public final class AnswerBoundariesTest {
         simple("x=1|2000*x=1999", 2, Calls.FAR_GREAT, Calls.FAR_GREAT);
         simple("x=1|1999*x=1998", 2, 1999, 2000);
         simple("10^9*x=1|10^9*x=2", 2, Calls.FAR_GREAT, Calls.FAR_GREAT);
+    }
+
+    /** A cell between roots of x^2-slope*x=c and of the same with a little more; a fraction all but meets one of them. */
+    private static void simpleFarFromZero(int slope, int constant, int more, long above, long below) {
+        String first = "x^2-(" + slope / 1000 + "*1000+" + slope % 1000 + ")*x=" + constant / 1000 + "*1000+";
+        simple(first + constant % 1000 + "|" + first + (constant % 1000 + more), 6, above, below);
+    }
+
+    private static void simpleAllButMeetsARoot() {
+        simpleFarFromZero(30068701, 468020108, 2, Calls.FAR_GREAT, Calls.FAR_GREAT);
+        simpleFarFromZero(19213913, 11336306, 1, 37678484550L, 1961);
+        simpleFarFromZero(13854600, 348125877, 3, 26171386865L, 1889);
+        simpleFarFromZero(26555584, 76108855, 2, 46578499363L, 1754);
+        simpleFarFromZero(26069976, 827398415, 1, 44006173061L, 1688);
+        simpleFarFromZero(16899834, 26433567, 1, 14888755132L, 881);
+        simpleFarFromZero(25277434, 363891020, 3, 12259562472L, 485);
+        simpleFarFromZero(15930138, 457411648, 1, 9287287194L, 583);
     }
 
     private static void simpleOfNone() {

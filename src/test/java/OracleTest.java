@@ -30,6 +30,7 @@ public final class OracleTest {
             if (i % 4 == 0) {
                 compare(Texts.many(random), random);
                 compare(Texts.neighbours(random), random);
+                compare(Texts.far(random), random);
             }
             for (int j = 0; j < 20; j++) {
                 compareFault(Texts.spoilt(random));
@@ -50,6 +51,8 @@ public final class OracleTest {
         "x^2-10^9*x+1=0|x-10^9<0", "x^8-10^9*x^7-10^9<0|x^8-10^9*x^7+10^9<0", "10^9*x^8-(10^9-1)=0|x=1|x=0-1",
         "(10^9-1)*x^8=10^9|10^9*x^7=10^9-1", "x^8+10^9*x^7+x=0", "(x^2-x)^4=0|(x^2+x)^4>0|(x^3-x)^2<0",
         "(3*x-1)*(2*x-1)*(5*x-3)*(7*x+2)=0|(3*x-1)*(7*x+2)*(x^2-2)<0", "64*x^6-80*x^4+24*x^2-1<0|128*x^8-256*x^6+160*x^4-32*x^2+1>0",
+        "(10^9-3906*1000-250)*x^8=10^9*(x^7+x^6+x^5+x^4+x^3+x^2+x)+10^9-1|x<2",
+        "x^2-(19213*1000+913)*x=11336*1000+306|x^2-(19213*1000+913)*x=11336*1000+307",
         "x^4-10*x^2+1=0|x^2-5<2|(x^2-5)^2=24&x^3-9*x=0", "x^3-3*x+1=0|x^3-3*x-1=0|x^6-6*x^4+9*x^2-1>0",
     };
 
@@ -350,6 +353,19 @@ public final class OracleTest {
                 }
             }
             return out.toString();
+        }
+
+        /** Roots far from 0, close to whole numbers and to one another. */
+        static String far(Random random) {
+            int n = 2 + random.nextInt(3);
+            int a = 1 + random.nextInt(31622);
+            int b = 1 + random.nextInt(31622);
+            int c = random.nextInt(31622);
+            int d = random.nextInt(random.nextBoolean() ? 4 : 31622);
+            String first = "x^" + n + (random.nextBoolean() ? "-" : "+") + a + "*" + b + "*x^" + (n - 1);
+            String second = (random.nextBoolean() ? "-" : "+") + c + "*" + d;
+            String more = (random.nextBoolean() ? "-" : "+") + (1 + random.nextInt(3));
+            return first + second + "=0|" + first + second + more + "<0";
         }
 
         static String spoilt(Random random) {
