@@ -1697,7 +1697,7 @@ public final class RootJudge {
         }
 
         Root rootAt(int k) {
-            return finder.roots[order[k]];
+            return finder.roots[order[Math.max(0, Math.min(k, MOST_ROOTS - 1))]];
         }
 
         /** Roots of one piece come rising, so the later one is the greater where quick looks do not tell. */

@@ -1,4 +1,9 @@
 import java.lang.management.ManagementFactory;
+import java.lang.reflect.Array;
+import java.lang.reflect.Field;
+import java.lang.reflect.Modifier;
+import java.util.IdentityHashMap;
+import java.util.Map;
 import java.util.Random;
 
 /**
@@ -11,14 +16,14 @@ public final class AnyCallsTest {
     private static final String[] TEXTS = {"x^2=2|", "(x-1)^3*(x+2)^2<0&", "~[x^8-7*x^3+1<0]|", "x=x", "((x^2-9)^2-40)^2<99",
         "10^9*x=1|x^8-10^9*x+1=0|x^7-10^9*x+1>0", "x^9=0", "[", "(2*x-3)*(3*x^2-5)=0&"};
 
-    public static void main(String[] args) {
+    public static void main(String[] args) throws IllegalAccessException {
         Random random = new Random(7);
         boolean fine = true;
         for (int turn = 0; turn < 300 && fine; turn++) {
             fine = runs(random);
         }
-        fine = fine && takesNoRoom();
-        System.out.println(fine ? "no call threw, none took room" : "FAILED");
+        fine = fine && takesNoRoom() && isSmall();
+        System.out.println(fine ? "no call threw, none took room, a judge is small" : "FAILED");
         System.exit(fine ? 0 : 1);
     }
 
@@ -98,5 +103,40 @@ public final class AnyCallsTest {
             System.out.println("the calls took " + most + " bytes");
         }
         return most <= 1000;
+    }
+
+    /** Several hundred judges fit into the room of one run, 600,000 objects with 7,300,000 fields and elements. */
+    private static boolean isSmall() throws IllegalAccessException {
+        Map<Object, Object> objects = new IdentityHashMap<>();
+        long parts = partsOf(new RootJudge(), objects);
+        boolean small = objects.size() <= 1000 && parts <= 12000;
+        if (!small) {
+            System.out.println("a judge has " + objects.size() + " objects with " + parts + " fields and elements");
+        }
+        return small;
+    }
+
+    private static long partsOf(Object object, Map<Object, Object> objects) throws IllegalAccessException {
+        if (object == null || objects.put(object, object) != null) {
+            return 0;
+        }
+        Class<?> type = object.getClass();
+        long parts = 0;
+        if (type.isArray()) {
+            int length = Array.getLength(object);
+            parts = length;
+            for (int i = 0; i < length && !type.getComponentType().isPrimitive(); i++) {
+                parts += partsOf(Array.get(object, i), objects);
+            }
+            return parts;
+        }
+        for (Field field : type.getDeclaredFields()) {
+            if (!Modifier.isStatic(field.getModifiers())) {
+                parts++;
+                field.setAccessible(true);
+                parts += field.getType().isPrimitive() ? 0 : partsOf(field.get(object), objects);
+            }
+        }
+        return parts;
     }
 }
